@@ -331,6 +331,9 @@ public final class PromisesTest {
         due("by(101)", x.by(101), -1);
         due("count(11)", x.count(11), 3);
         due("by() tells nothing", x.count(7), 10);
+        NeverCross one = told("a../..x");
+        due("by(0) of one", one.by(0), 3);
+        due("by(1) of one", one.by(1), -1);
         due("by(-1) without a slope", new NeverCross().by(-1), -3);
     }
 
@@ -408,6 +411,16 @@ public final class PromisesTest {
         CHECK.yes("by TOLD", ranked(turned, 2, 0).equals("drd"));
         turned.set(10);
         due("what is told is asked anew", turned.rank(2, 0, 0), -9);
+        turned.set(1);
+        due("asked ahead of an image", turned.rank(0, 0, 1), 0);
+        turned.image();
+        turned.law(3);
+        tell(turned, "a../..x");
+        CHECK.yes("another slope is asked anew", ranked(turned, 0, 0).equals("drr"));
+        turned.on();
+        CHECK.yes("on from the image it is asked anew", ranked(turned, 0, 0).equals("ddr"));
+        tell(turned, "a#/.x");
+        CHECK.yes("another slope by the same law", ranked(turned, 0, 0).equals("dr"));
         due("rank(0, 0, 0) without a slope", new NeverCross().rank(0, 0, 0), -1);
     }
 
@@ -425,6 +438,7 @@ public final class PromisesTest {
         due("drawn(0, 0, 2)", x.drawn(0, 0, 2), 0);
         due("drawn(0, 1, -1)", x.drawn(0, 1, -1), -1);
         due("drawn(0, 0, -1)", x.drawn(0, 0, -1), -4);
+        due("drawn of one family", told("a#/.x").drawn(5, 0, 1), 1);
         NeverCross shut = told("a#/#x");
         due("drawn of none", shut.drawn(5, 0, 0), -9);
         due("drawn of none, a step below", shut.drawn(5, 0, -1), -4);
@@ -573,6 +587,9 @@ public final class PromisesTest {
         x.clear();
         walk(x, 1, "drrr");
         due("out on the right", x.judge(), 1023);
+        NeverCross first = told("a#/.x");
+        walk(first, 0, "r");
+        due("the first step", first.judge(), 1000);
         NeverCross three = told("abc/.../xyz");
         walk(three, 2, "r");
         due("the third door", three.judge(), 1040);
