@@ -204,7 +204,7 @@ public final class NeverCross {
         if (k < 0 || step < 0) {
             return refuse(BELOW);
         }
-        return stepOfRanked(k, door, step);
+        return stepOfRanked(k, familiesByLaw(), door, step);
     }
 
     public int drawn(int z, int door, int step) {
@@ -218,7 +218,7 @@ public final class NeverCross {
         if (families < 1) {
             return NONE;
         }
-        return stepOfRanked(drawBelow(families, z), door, step);
+        return stepOfRanked(drawBelow(families, z), families, door, step);
     }
 
     public int most() {
@@ -426,11 +426,11 @@ public final class NeverCross {
         return sum;
     }
 
-    private int stepOfRanked(int k, int door, int step) {
+    private int stepOfRanked(int k, int families, int door, int step) {
+        if (k >= families) {
+            return NONE;
+        }
         if (k != rankHeld) {
-            if (k >= familiesByLaw()) {
-                return NONE;
-            }
             ranked.seek(lawNow(), now.told, 0, k + 1);
             rankHeld = k;
         }
@@ -978,9 +978,7 @@ public final class NeverCross {
         private int doorsPickedThrough(int cell) {
             int bits = 0;
             for (int door = 0; door < ways.doors; door++) {
-                if (isIn(picked[door], cell)) {
-                    bits |= 1 << door;
-                }
+                bits |= (picked[door] >> cell & 1) << door;
             }
             return bits;
         }

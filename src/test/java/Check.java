@@ -2,22 +2,24 @@
 final class Check {
     private int looked;
     private int wrong;
+    private String about = "";
+
+    /** What the next answers are about: it is told with each that is not as due. */
+    void about(String words) {
+        about = words.isEmpty() ? "" : "[" + words + "] ";
+    }
 
     void due(String call, long got, long want) {
-        looked++;
-        if (got != want) {
-            wrong++;
-            if (wrong <= 40) {
-                System.out.println(call + " answered " + got + ", due is " + want);
-            }
-        }
+        yes(call + " answered " + got + ", due is " + want, got == want);
     }
 
     void yes(String what, boolean held) {
         looked++;
         if (!held) {
             wrong++;
-            System.out.println("not so: " + what);
+            if (wrong <= 40) {
+                System.out.println("not so: " + about + what);
+            }
         }
     }
 

@@ -1,7 +1,5 @@
 /** For each promise of the document: ordinary inputs, its edges and wrong inputs, worked out by hand. */
-public final class PromisesTest {
-    private static final Check CHECK = new Check();
-
+public final class PromisesTest extends Hand {
     public static void main(String[] args) {
         newObject();
         letter();
@@ -35,39 +33,6 @@ public final class PromisesTest {
         count();
         refusalsChangeNothing();
         CHECK.end("PromisesTest");
-    }
-
-    private static void due(String call, long got, long want) {
-        CHECK.due(call, got, want);
-    }
-
-    private static NeverCross told(String text) {
-        NeverCross x = new NeverCross();
-        due("slope() of " + text, tell(x, text), text.replace("/", "").length());
-        return x;
-    }
-
-    private static int tell(NeverCross x, String text) {
-        for (char c : text.toCharArray()) {
-            x.letter(c);
-        }
-        return x.slope();
-    }
-
-    private static void walk(NeverCross x, int door, String steps) {
-        for (char c : steps.toCharArray()) {
-            x.step(door, c == 'd' ? 0 : 1);
-        }
-    }
-
-    /** The way of a door in the k-th family, as letters. */
-    private static String ranked(NeverCross x, int k, int door) {
-        StringBuilder steps = new StringBuilder();
-        for (int step = 0; step < 12; step++) {
-            int v = x.rank(k, door, step);
-            steps.append(v == 0 ? "d" : v == 1 ? "r" : "");
-        }
-        return steps.toString();
     }
 
     private static void newObject() {
