@@ -91,7 +91,7 @@ public final class SlopeEdgesTest extends Hand {
         for (int c = 0; c < 256; c++) {
             NeverCross x = new NeverCross();
             x.letter('a');
-            x.letter(c);
+            due("letter(" + c + ")", x.letter(c), 2);
             int got = tell(x, "/.x");
             boolean plain = c == '.' || c == '#' || c >= '1' && c <= '9';
             boolean alone = c == 'b' || c == 'c' || c == 'y' || c == 'z';

@@ -15,6 +15,7 @@ public final class ToldEdgesTest extends Hand {
         clear();
         imageOfNothing();
         imageOfAll();
+        seenOfTheImage();
         imageIsTakenOnce();
         onIsAskedAnew();
         counts();
@@ -313,6 +314,26 @@ public final class ToldEdgesTest extends Hand {
         due("steps", x.clear(), 30);
         due("on() once more", x.on(), 30);
         due("steps once more", x.clear(), 30);
+    }
+
+    private static void seenOfTheImage() {
+        sentence("THE IMAGE: .. SEEN CELLS");
+        NeverCross x = told("a./.x/b./.y/c./.z");
+        x.seen(1);
+        x.seen(5);
+        x.image();
+        x.clear();
+        x.seen(2);
+        x.seen(6);
+        x.seen(9);
+        due("others are SEEN", x.fits(), 1);
+        x.on();
+        due("how many", x.count(4), 2);
+        due("those of the image", x.fits(), 2);
+        x.seen(9);
+        due("one more", x.fits(), 1);
+        x.on();
+        due("without the one more", x.fits(), 2);
     }
 
     private static void imageIsTakenOnce() {

@@ -241,6 +241,19 @@ public final class WayEdgesTest extends Hand {
         due("the greatest digit", told("a9x/...").cheap(), 9);
         due("the dear way is the only one", told("a1#/92x").cheap(), 3);
         due("of all three together", told("abc/123/xyz").cheap(), 6);
+        dueCheap("a../b../.x./4.y", 4, 0, 0, 0, 4);
+        dueCheap("a../b../.x9/..y", 0, 9, 9, 0, 0);
+        dueCheap("a3./b../.x9/4.y", 7, 12, 12, 7, 7);
+        dueCheap("a.4/b5./.x./..y", 5, 4, 4, 4, 5);
+    }
+
+    /** The answers that are due by LAW 0, 1 .. 4. */
+    private static void dueCheap(String text, int... wants) {
+        NeverCross x = told(text);
+        for (int law = 0; law < 5; law++) {
+            x.law(law);
+            due("CHEAP of " + text + " by LAW " + law, x.cheap(), wants[law]);
+        }
     }
 
     private static void inLeastTerms() {
