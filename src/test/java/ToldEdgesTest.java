@@ -206,6 +206,7 @@ public final class ToldEdgesTest extends Hand {
         due("DOORS 0 and 2, ahead of 0 and 1", judged("a.cb/...x/..zy", "drrr", "dd", "dd"), 6);
         due("all three", judged(told("abc./...x/..yz", 3), "rrrd", "rrrd".substring(1), "rd"), 1);
         due("in the last CELL", judged(told("....a/...../...../...../y..../...bx", 3), "ddddd", "r"), 29);
+        due("a through x, where nobody ends: but one is there", judged(told("ax./b.y", 3), "rrd", "rr"), 5);
         due("in none", judged("abc/xyz", "d", "d", "d"), -9);
     }
 
